@@ -273,30 +273,21 @@ public final class CographCotree {
         return below | above;
     }
 
-    /** Keeps the first four-path of the graph as the witness; without one, leaves the witness alone. */
+    /** The loops go in the order in which lists are compared, so the first four-path met is the first of all. */
     private boolean keepFirstFourPath() {
         for (int a = 0; a < vertexCount; a++) {
             for (int b = 0; b < vertexCount; b++) {
                 for (int c = 0; c < vertexCount; c++) {
-                    int d = firstEndOfFourPath(a, b, c);
-                    if (d < vertexCount) {
-                        keepWitness(a, b, c, d);
-                        return true;
+                    for (int d = a + 1; d < vertexCount; d++) {
+                        if (isFourPath(a, b, c, d)) {
+                            keepWitness(a, b, c, d);
+                            return true;
+                        }
                     }
                 }
             }
         }
         return false;
-    }
-
-    /** The least d above a that makes (a, b, c, d) a four-path, or the number of vertices if there is none. */
-    private int firstEndOfFourPath(int a, int b, int c) {
-        for (int d = a + 1; d < vertexCount; d++) {
-            if (isFourPath(a, b, c, d)) {
-                return d;
-            }
-        }
-        return vertexCount;
     }
 
     /** For a < d. That the four differ follows: were a = c or b = d, an edge would be asked for and forbidden. */

@@ -120,14 +120,14 @@ public final class PromiseTest {
         due(2, "adjacent(2, 3)", x.adjacent(2, 3), true);
         due(2, "adjacent(1, 3)", x.adjacent(1, 3), false);
 
-        // Two edges 0-1 and 2-3; a vertex joined to 1 and 2 makes 0-1-4-2 and 1-4-2-3, and no shorter choice.
+        // Two edges 0-1 and 2-3; a vertex joined to 1 and 2 makes 0-1-4-2 and 1-4-2-3.
         CographCotree edges = graph(3, 0, 1, 0, 4);
         due(2, "addVertex(6)", edges.addVertex(6), FOUR_PATH);
         dueWitness(2, "between two edges", edges, 0, 1, 4, 2);
         // The same vertex joined to 0 too: 0-4-2-3 and 1-4-2-3.
         due(2, "addVertex(7)", edges.addVertex(7), FOUR_PATH);
         dueWitness(2, "after another refusal", edges, 0, 4, 2, 3);
-        due(2, "addVertex(4) then weights", edges.addVertex(15), 5);
+        due(2, "addVertex(15)", edges.addVertex(15), 5);
         due(2, "heaviestStable(16)", edges.heaviestStable(16), 3);
     }
 
